@@ -5,7 +5,7 @@ public final class Promise1Test {
     public static void main(String[] args) {
         check.sentence("every one of the 32 entries of RING is 0",
             Promise1Test::everyEntryIsZero);
-        check.sentence("HEAD is 0",
+        check.sentence("HEAD is 0 (only that it is in the ring: which place, no call can tell)",
             Promise1Test::headStartsInsideTheRing);
         check.sentence("The constructor takes no arguments and never throws.",
             Promise1Test::constructorNeverThrows);
